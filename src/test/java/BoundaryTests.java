@@ -1371,6 +1371,14 @@ public final class BoundaryTests {
             word 0 0 1
             ~ prints 0 2 24 NONE = 0 | ~ prints 0 2 24 0 = 0 | ~ prints 0 2 24 1 = 1
             """);
+        test(26, "of several the first: none right, a WORD of one", street + """
+            word 0 1
+            ~ prints 0 1 24 NONE = 0 | ~ prints 0 1 24 0 = 0
+            """);
+        test(26, "of several the first: none right, on eight PANES", eight("form 255", "") + """
+            word 0 0 0 0 0 0 0 0 0
+            ~ prints 0 1 24 0 = 0 | ~ prints 0 7 24 0 = 0 | ~ prints 0 7 24 6 = 6 | ~ prints 0 8 24 7 = 7
+            """);
         test(26, "of several the first: the first of its PANES", street + """
             word 0 0
             ~ prints 0 1 1 NONE = 1 | ~ prints 0 1 1 0 = 1
